@@ -52,6 +52,8 @@ public final class RoseWall {
     private final Steps steps = new Steps();
     private final Reach reach = new Reach();
     private final Contest contest = new Contest();
+    /** By temper: the wall behind a night that is tried. */
+    private final int[] wallsThen = new int[TEMPERS];
 
     public RoseWall() {
         for (int i = 0; i < pool.length; i++) {
@@ -617,20 +619,22 @@ public final class RoseWall {
 
     /** The greatest number of these tempers by which the wall is the same behind one night. */
     private int mostAlike(int set, int blind) {
+        for (int n = 0; n < TEMPERS; n++) {
+            wallsThen[n] = (set >> n & 1) != 0 ? steps.pass(now.place(), blind, n) & WALL_BITS : NONE;
+        }
         int most = 0;
         for (int n = 0; n < TEMPERS; n++) {
-            if ((set >> n & 1) != 0) {
-                most = Math.max(most, alike(set, n, blind));
+            if (wallsThen[n] != NONE) {
+                most = Math.max(most, alike(wallsThen[n]));
             }
         }
         return most;
     }
 
-    private int alike(int set, int n, int blind) {
-        int wall = steps.pass(now.place(), blind, n) & WALL_BITS;
+    private int alike(int wall) {
         int alike = 0;
-        for (int k = 0; k < TEMPERS; k++) {
-            if ((set >> k & 1) != 0 && (steps.pass(now.place(), blind, k) & WALL_BITS) == wall) {
+        for (int n = 0; n < TEMPERS; n++) {
+            if (wallsThen[n] == wall) {
                 alike++;
             }
         }
@@ -1695,7 +1699,7 @@ public final class RoseWall {
                 return NONE;
             }
             int node = order[place];
-            return node < size && places[node] == place ? node : NONE;
+            return node >= 0 && node < size && places[node] == place ? node : NONE;
         }
 
         private int add(int place, int by) {
@@ -1744,7 +1748,7 @@ public final class RoseWall {
             }
             int nights = 0;
             int edge = cameBy[node];
-            while (edge >= 0 && nights < NODES) {
+            while (edge >= 0 && edge < to.length && nights < NODES) {
                 nights++;
                 edge = cameBy[edge / 2];
             }
@@ -1758,7 +1762,7 @@ public final class RoseWall {
                 return NONE;
             }
             int edge = cameBy[node];
-            for (int k = 0; k < back && edge >= 0; k++) {
+            for (int k = 0; k < back && edge >= 0 && edge < to.length; k++) {
                 edge = cameBy[edge / 2];
             }
             return edge < 0 ? NONE : edge % 2;
@@ -1863,26 +1867,26 @@ public final class RoseWall {
 
         /** Works back from where nobody is in; not by turns: the tenant minds the blind always. */
         void settle(Reach reach, boolean byTurns) {
-            begin(reach);
+            begin(reach, byTurns);
             for (int i = 0; i < size && i < settled.length; i++) {
                 int state = settled[i];
                 int turn = byTurns ? 1 - state % 2 : state % 2;
                 int edge = edgeTo[state / 2];
-                for (int k = 0; k < edgeAhead.length && edge >= 0; k++) {
+                for (int k = 0; k < edgeAhead.length && edge >= 0 && edge < edgeAhead.length; k++) {
                     leadOut(edge / 2 * 2 + turn, levels[state] + 1);
                     edge = edgeAhead[edge];
                 }
             }
         }
 
-        private void begin(Reach reach) {
+        private void begin(Reach reach, boolean byTurns) {
             size = 0;
             Arrays.fill(levels, NONE);
             Arrays.fill(edgeTo, NONE);
             for (int node = 0; node < reach.size && node < NODES; node++) {
                 boolean empty = reach.places[node] >> WHO == NOBODY;
                 /* Of the landlady's blinds one that leads out is enough; of the tenant's both must. */
-                left[node * 2 + LANDLADY] = 1;
+                left[node * 2 + LANDLADY] = byTurns ? 1 : 0;
                 left[node * 2 + TENANT] = empty ? 1 : 2;
                 if (empty) {
                     leadOut(node * 2 + LANDLADY, 0);
@@ -1895,13 +1899,16 @@ public final class RoseWall {
         }
 
         private void addEdge(int edge, int node) {
-            if (node >= 0 && node < NODES) {
+            if (node >= 0 && node < NODES && edge >= 0 && edge < edgeAhead.length) {
                 edgeAhead[edge] = edgeTo[node];
                 edgeTo[node] = edge;
             }
         }
 
         private void leadOut(int state, int level) {
+            if (state < 0 || state >= left.length) {
+                return;
+            }
             left[state]--;
             if (left[state] == 0 && size < settled.length) {
                 levels[state] = level;
@@ -1915,7 +1922,7 @@ public final class RoseWall {
             int blind = NONE;
             for (int k = 0; k <= i; k++) {
                 int level = level(node, TENANT);
-                if (level == 0 || level == 1) {
+                if (level == 0 || level == 1 || node < 0 || node >= NODES) {
                     return NONE;
                 }
                 int due = level == NONE ? NONE : level - 1;
