@@ -1757,10 +1757,11 @@ public final class RoseWall {
 
         /** The blind of the i-th night that leads to a node; NONE if there are not so many. */
         int blindTo(int node, int i) {
-            int back = depth(node) - 1 - i;
-            if (back < 0 || i < 0) {
+            int nights = depth(node);
+            if (i < 0 || i >= nights || node < 0 || node >= NODES) {
                 return NONE;
             }
+            int back = nights - 1 - i;
             int edge = cameBy[node];
             for (int k = 0; k < back && edge >= 0 && edge < to.length; k++) {
                 edge = cameBy[edge / 2];

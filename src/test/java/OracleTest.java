@@ -379,6 +379,27 @@ public final class OracleTest {
         return wrong;
     }
 
+    /** Every call with numbers far out of their bounds, and at them. */
+    private boolean runExtremes() {
+        int[] numbers = {Integer.MIN_VALUE, -2, -1, 0, 1, 3, 9, 10, 40, 100, 512, 99999, Integer.MAX_VALUE};
+        tell();
+        for (int tray = 0; tray < 3; tray++) {
+            call("numbers", tray, 1 + tray, 1 + tray);
+            call("lists", tray, tray % 2);
+        }
+        for (Method m : ours.values()) {
+            for (int i = 0; i < 12 && !wrong; i++) {
+                Object[] args = new Object[m.getParameterCount()];
+                for (int k = 0; k < args.length; k++) {
+                    int drawn = numbers[random.nextInt(numbers.length)];
+                    args[k] = m.getParameterTypes()[k] == long.class ? (Object) (drawn * 3L) : (Object) drawn;
+                }
+                call(m.getName(), args);
+            }
+        }
+        return run(0);
+    }
+
     public static void main(String[] args) {
         int runs = args.length > 0 ? Integer.parseInt(args[0]) : 700;
         long first = args.length > 1 ? Long.parseLong(args[1]) : 1;
@@ -391,6 +412,12 @@ public final class OracleTest {
                 System.exit(1);
             }
             asked += test.log.size();
+            OracleTest extremes = new OracleTest(seed, hits);
+            if (seed % 5 == 0 && extremes.runExtremes()) {
+                System.out.println("extremes, seed " + seed);
+                System.exit(1);
+            }
+            asked += extremes.log.size();
         }
         System.out.println(asked + " answers looked at; rooms read and faulty, by fault: " + java.util.Arrays.toString(hits));
     }
