@@ -288,6 +288,14 @@ public final class QuestionsTest {
         check.due("ten nights", x.tempers(0, 1023), 1023);
         check.due("eleven", x.tempers(0, 1024), -3);
         check.due("the temper stays", x.count(6), 1);
+        RoseWall two = Check.told("wall 1 1;turns : temper < 2 and light = 0 or temper = 1;");
+        Check.fill(two, 0, 1);
+        check.due("0 and 1", two.tempers(0, 0), 3);
+        check.due("attempt, to tell 0 from 1", two.attempt(0, 0), 1);
+        RoseWall last = Check.told("wall 1 1;turns : temper > 7 and light = 0 or temper = 9;");
+        Check.fill(last, 0, 1);
+        check.due("8 and 9", last.tempers(0, 0), 768);
+        check.due("attempt, to tell 8 from 9", last.attempt(0, 0), 1);
         RoseWall now = Check.told("wall 1 2;tenant;in 0;turns : turned = 0 and temper = cell + light or tenant = 9 and cell = 1;goes : all = 1;");
         Check.fill(now, 0, 1, 2);
         check.due("as who is in, and goes", now.tempers(0, 0), 1);

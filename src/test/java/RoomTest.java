@@ -85,6 +85,33 @@ public final class RoomTest {
         check.due("room(0): the end", y.fault(1), 0);
     }
 
+    /** What is behind the first n bytes of the tape is no part of the text, not even of its last token. */
+    private static void cutTexts() {
+        int[][] cuts = {{0, 2, 0}, {2, 2, 0}, {6, 2, 6}, {10, 2, 9}, {15, 2, 15}, {16, 2, 16}, {17, 2, 17}, {20, 2, 18}, {25, 2, 25}, {26, 2, 26}};
+        for (int[] cut : cuts) {
+            RoseWall x = new RoseWall();
+            Check.feed(x, "wall 1 1;temper 1;temper 333;");
+            check.due("cut to " + cut[0], x.room(cut[0]), -30 - cut[1]);
+            check.due("its place, cut to " + cut[0], x.fault(1), cut[2]);
+        }
+        RoseWall y = new RoseWall();
+        Check.feed(y, "wall 1 1;turns : 1 = 12 ;");
+        check.due("cut within a number", y.room(22), -32);
+        check.due("cut within a number, its place", y.fault(1), 22);
+        RoseWall z = new RoseWall();
+        Check.feed(z, "wall 1 1;temper 3;temper 4;");
+        check.due("cut between lines", z.room(18), 2);
+        check.due("cut between lines: temper", z.count(6), 3);
+        for (String last : new String[] {"temper", "temper 12", "?", "1234", "temper 1", ";"}) {
+            String whole = "wall 1 1;" + " ".repeat(891 - last.length()) + last;
+            RoseWall x = new RoseWall();
+            boolean bad = last.equals("?") || last.equals("1234");
+            boolean out = last.equals("temper 12");
+            check.due("900 bytes, at their end " + last, Check.tell(x, whole), bad ? -31 : out ? -33 : -32);
+            check.due("its place", x.fault(1), last.startsWith("temper 12") ? 898 : last.startsWith("temper") ? 900 : 900 - last.length());
+        }
+    }
+
     private static void goodTexts() {
         read("wall 1 1;", 1);
         read(" \n wall\n3\n3\n;\n", 1);
@@ -124,6 +151,12 @@ public final class RoomTest {
         fault("wall 1 1;open \u0000;", 1, 14);
         fault("wall 1 1;open 1/;", 1, 15);
         fault("wall 1 1;ivy ?", 2, 9);
+        fault("wall 1 1;zinnia;", 2, 9);
+        fault("wall 1 1;a;", 2, 9);
+        fault("wall 1 1;`;", 1, 9);
+        fault("wall 1 1;{;", 1, 9);
+        fault("wall 1 1;open 1a;", 2, 15);
+        fault("wallz 1 1;", 2, 0);
         fault("wall 1 1;? ivy", 1, 9);
         fault("wall 2 2;row 2 0 0;", 3, 13);
         fault("wall 2 2;row;", 2, 12);
@@ -304,6 +337,7 @@ public final class RoomTest {
         newObject();
         tape();
         aNewRoom();
+        cutTexts();
         goodTexts();
         faults();
         lawFaults();
