@@ -901,7 +901,7 @@ public final class RoseWall {
 
     /** A truth of the laws' language, operators behind what they join: numbers, and ~kind of other tokens. */
     private static final class Law {
-        private static final long MOST = 1000000L;
+        private static final int MOST = 1000000;
         /** Six within one another, each with two half-worked-out sides, stay far below it. */
         private static final int DEPTH = 40;
 
@@ -945,16 +945,24 @@ public final class RoseWall {
         }
 
         private static int joined(int sign, long a, long b) {
+            long value;
             switch (sign) {
-                case '+': return (int) Math.max(-MOST, Math.min(MOST, a + b));
-                case '-': return (int) Math.max(-MOST, Math.min(MOST, a - b));
-                case '*': return (int) Math.max(-MOST, Math.min(MOST, a * b));
+                case '+':
+                    value = a + b;
+                    break;
+                case '-':
+                    value = a - b;
+                    break;
+                case '*':
+                    value = a * b;
+                    break;
                 case '=': return a == b ? 1 : 0;
                 case '<': return a < b ? 1 : 0;
                 case '>': return a > b ? 1 : 0;
                 case Tokens.AND: return (int) (a & b);
                 default: return (int) (a | b);
             }
+            return value > MOST ? MOST : value < -MOST ? -MOST : (int) value;
         }
     }
 

@@ -189,6 +189,11 @@ public final class DeedsTest {
         }
         check.due("undone as a whole", x.undo(1), 0);
         unchanged("undo(1)", x, before);
+        Check.fill(x, 2, 33, 50);
+        check.due("one deed alone", x.perform(2), 1);
+        check.due("one deed alone can be undone", x.count(8), 1);
+        check.due("undo(1)", x.undo(1), 0);
+        check.due("undone", x.count(6), 0);
         long[] many = new long[40];
         java.util.Arrays.fill(many, 20);
         Check.fill(x, 0, many);
@@ -224,6 +229,13 @@ public final class DeedsTest {
         RoseWall small = Check.told("wall 1 1;");
         check.due("a rose that there isn't", small.season(2, 1), 0);
         check.due("no call that did some", small.count(8), 0);
+        RoseWall one = Check.told(GROWS);
+        one.temper(7);
+        check.due("one alone: a night", one.season(1, 1), 1);
+        check.due("one alone can be undone", one.count(8), 2);
+        check.due("undo(1)", one.undo(1), 1);
+        check.due("undone: nights", one.count(7), 0);
+        check.due("undone: temper", one.count(6), 7);
         RoseWall light = Check.told(GROWS);
         check.due("the blinds are drawn: shut, open, shut, open, shut", light.season(1, 7), 5);
         check.due("wall", light.count(2), 7);

@@ -351,6 +351,36 @@ public final class QuestionsTest {
         check.due("of like ones the first", all.best(3), 0);
     }
 
+    /** All questions but tempers and attempt are of the temper now; no answer outlives a deed. */
+    private static void ofTheTemperNow() {
+        RoseWall x = Check.told("wall 1 1;tenant patience 0;in 0;turns : temper = 1 and light = 1 or temper = 2 and turned = 0 or temper = 3;");
+        Check.fill(x, 0, 1);
+        int[][] due = {
+            // lies shut, lies open, stays, out, forces, soonest(1), walls, orphans shut, still shut, rows(1, 1), seen, whose, chance below, best
+            {0, 0, -1, -1, -1, -1, 1, 1, 1, 0, 0, 0, 1, 0},
+            {0, 1, -1, 1, 1, 1, 2, 1, 1, 1, 1, 513, 2, 0},
+            {1, 1, 0, 1, 1, 1, 2, 0, 0, 2, 2, 513, 1, 0},
+            {1, 1, 0, 1, 1, 1, 2, 1, 1, 2, 2, 513, 1, 0}};
+        for (int k = 0; k < 12; k++) {
+            int temper = (k * 7 + 1) % 4;
+            x.temper(temper);
+            int[] got = {x.lies(1, 0), x.lies(1, 1), x.stays(), x.out(), x.forces(), x.soonest(1), x.walls(), x.orphans(0, 0), x.still(0, 0),
+                x.rows(1, 1), x.seen(0), x.whose(0), x.chance(1, 1), x.best(1)};
+            for (int i = 0; i < got.length; i++) {
+                check.due("of temper " + temper + ", " + i, got[i], due[temper][i]);
+            }
+        }
+        RoseWall each = Check.told("wall 1 1;tenant patience 0;tenant;turns : temper = 1;");
+        check.due("best, of temper 0", each.best(1), 0);
+        each.temper(1);
+        check.due("best, of temper 1", each.best(1), 1);
+        each.undo(1);
+        check.due("still, of temper 0", each.still(0, 0), 1);
+        check.due("parents, of temper 0", each.parents(1, 0, 0), 0);
+        each.temper(1);
+        check.due("parents, of temper 1", each.parents(1, 0, 0), 2);
+    }
+
     /** No question changes anything, whatever it is asked. */
     private static void nothingChanges() {
         RoseWall x = Check.told(GROWS + "temper 2;");
@@ -398,6 +428,7 @@ public final class QuestionsTest {
         tempers();
         chances();
         best();
+        ofTheTemperNow();
         nothingChanges();
         check.end();
     }

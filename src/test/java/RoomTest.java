@@ -273,6 +273,16 @@ public final class RoomTest {
             check.due(truth, law(truth) ? 1 : 0, 1);
             check.due("not [ " + truth, law("not [" + truth + "]") ? 1 : 0, 0);
         }
+        String sums = "1 + 2 * (".repeat(6) + "1 + 2 * 3" + ")".repeat(6);
+        check.due("sums, six within one another", law(sums + " = 511") ? 1 : 0, 1);
+        check.due("sums, six within one another, not so", law(sums + " = 510") ? 1 : 0, 0);
+        String truths = "1 = 0 or 1 = 1 and [".repeat(6);
+        check.due("truths, six within one another", law(truths + "1 + 2 * 3 = 7" + "]".repeat(6)) ? 1 : 0, 1);
+        check.due("truths, six within one another, not so", law(truths + "1 + 2 * 3 = 8" + "]".repeat(6)) ? 1 : 0, 0);
+        String many = "1 = 1" + " and 1 = 1".repeat(70);
+        check.due("many", law(many) ? 1 : 0, 1);
+        check.due("many, and one not so", law(many + " and 1 = 0") ? 1 : 0, 0);
+        check.due("as many signs as there can be", law("1" + "+1".repeat(438) + "=439") ? 1 : 0, 1);
     }
 
     private static void roses() {

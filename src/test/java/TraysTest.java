@@ -154,6 +154,31 @@ public final class TraysTest {
         }
     }
 
+    /** A new room has nothing of those that were read ahead of it. */
+    private static void manyRooms() {
+        RoseWall x = new RoseWall();
+        for (int i = 0; i < 6; i++) {
+            Check.tell(x, "wall 2 2;row 0 1 2;row 1 3 4;tenant patience 0;in 0;turned 1;face 2;open 10;temper 5;turns : kind = 4;goes : face = 1 or light = 1;");
+            check.due("kind", x.rose(3, 0), 4);
+            check.due("night(1)", x.night(1), 8);
+            check.due("gone", x.count(3), -1);
+            Check.tell(x, "wall 3 2;tenant;in 0;");
+            int[] due = {6, 1, 0, 0, 0, 0, 0, 0, 0, 0, 3};
+            for (int what = 0; what < due.length; what++) {
+                check.due("nothing of it: count(" + what + ")", x.count(what), due[what]);
+            }
+            for (int c = 0; c < 6; c++) {
+                check.due("nothing of it: kind " + c, x.rose(c, 0), 0);
+            }
+            check.due("its patience", x.tenant(0, 0), 9);
+            x.turn(0);
+            check.due("no law of it", x.night(1), 14);
+            check.due("no law of going", x.count(3), 0);
+            Check.tell(x, "wall 1 1;tenant;in 0;goes : light = 1;");
+            check.due("half", x.chance(1, 1), 2);
+        }
+    }
+
     private static void counts() {
         RoseWall x = Check.told("wall 2 3;tenant;tenant;in 1;turned 5;turned 0;face 2 3;temper 8;turns : turned = 1;");
         x.night(0);
@@ -175,6 +200,7 @@ public final class TraysTest {
         lists();
         images();
         manyImages();
+        manyRooms();
         counts();
         check.end();
     }
