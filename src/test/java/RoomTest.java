@@ -238,6 +238,64 @@ public final class RoomTest {
         fault("wall 1 1;turns : ((((((1 (", 2, 25);
     }
 
+    /** Each word with one letter changed, put in or left out is no word of the language. */
+    private static void nearWords() {
+        String[] texts = {"wall 1 1;", "wall 1 1;row 0 0;", "wall 1 1;tenant;", "wall 1 1;tenant;in 0;", "wall 1 1;turned 0;", "wall 1 1;face 0;",
+            "wall 1 1;open 1;", "wall 1 1;temper 1;", "wall 1 1;turns:1=1;", "wall 1 1;goes:1=1;", "wall 1 1;tenant patience 1;",
+            "wall 1 1;goes:1=1 or 1=1;", "wall 1 1;goes:1=1 and 1=1;", "wall 1 1;goes:not 1=1;", "wall 1 1;goes:1=light;", "wall 1 1;goes:1=tenant;",
+            "wall 1 1;goes:1=all;", "wall 1 1;goes:1=face;", "wall 1 1;goes:1=patience;", "wall 1 1;turns:1=cell;", "wall 1 1;turns:1=kind;",
+            "wall 1 1;turns:1=near;", "wall 1 1;turns:1=turned;", "wall 1 1;turns:1=temper;"};
+        for (String text : texts) {
+            int end = text.length();
+            while (!Character.isLetter(text.charAt(end - 1))) {
+                end--;
+            }
+            if (text.contains(" or ") || text.contains(" and ") || text.contains("not ")) {
+                end = text.lastIndexOf(' ');
+            }
+            int start = end;
+            while (start > 0 && Character.isLetter(text.charAt(start - 1))) {
+                start--;
+            }
+            read(text, text.replaceAll("[^;]", "").length());
+            for (int i = start; i < end; i++) {
+                fault(text.substring(0, i) + "q" + text.substring(i + 1), 2, start);
+                fault(text.substring(0, i) + "q" + text.substring(i), 2, start);
+                if (end - start > 1) {
+                    fault(text.substring(0, i) + text.substring(i + 1), 2, start);
+                }
+            }
+            fault(text.substring(0, end) + "q" + text.substring(end), 2, start);
+        }
+    }
+
+    /** Where the seventh of not [ ( stands, it is that, whatever is ahead of it. */
+    private static void sevenths() {
+        String[] six = {"1=1 and [", "1=1 or [", "not [", "not not ", "["};
+        for (String one : six) {
+            StringBuilder s = new StringBuilder("wall 1 1;turns : ");
+            int within = 0;
+            int seventh = -1;
+            for (int i = 0; i < 7; i++) {
+                for (int k = 0; k < one.length(); k++) {
+                    boolean opens = one.charAt(k) == '[' || one.startsWith("not", k);
+                    if (opens && ++within == 7) {
+                        seventh = s.length() + k;
+                    }
+                }
+                s.append(one);
+            }
+            fault(s.toString(), 4, seventh);
+        }
+        fault("wall 1 1;turns : " + "1=1 and not ".repeat(7), 2, 17 + 7 * 12);
+        fault("wall 1 1;turns : " + "1 * (".repeat(7), 4, 17 + 6 * 5 + 4);
+        fault("wall 1 1;turns : " + "1 + (".repeat(7), 4, 17 + 6 * 5 + 4);
+        fault("wall 1 1;turns : " + "2 - 1 * (".repeat(7), 4, 17 + 6 * 9 + 8);
+        fault("wall 1 1;turns : 1 = " + "(".repeat(7), 4, 27);
+        fault("wall 1 1;turns : 1 < 1 * " + "(".repeat(7), 4, 31);
+        fault("wall 1 1;turns : not [ 1 = " + "(".repeat(5), 4, 31);
+    }
+
     /** What is later strikes, and what isn't told is as the document says. */
     private static void whatIsTold() {
         RoseWall x = Check.told("wall 2 3;tenant;tenant patience 4 patience 2;row 1 4 5 6;row 1 7 8 9;in 1;in 0;"
@@ -255,6 +313,8 @@ public final class RoomTest {
         RoseWall laws = Check.told("wall 1 1;tenant;in 0;turns : 1 = 0;turns : 1 = 1;goes : 1 = 1;goes : 1 = 0;");
         check.due("the later law", laws.night(0), 1);
         check.due("the later law of going", laws.count(3), 0);
+        check.due("the latest of many", Check.told("wall 1 1;" + "turns:1=0;".repeat(88) + "turns:1=1;").rose(0, 3), 1);
+        check.due("the latest of many, not so", Check.told("wall 1 1;" + "turns:1=1;".repeat(88) + "turns:1=0;").rose(0, 3), 0);
     }
 
     private static boolean law(String truth) {
@@ -351,6 +411,8 @@ public final class RoomTest {
         goodTexts();
         faults();
         lawFaults();
+        nearWords();
+        sevenths();
         whatIsTold();
         language();
         roses();
