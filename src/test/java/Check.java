@@ -2,12 +2,26 @@
 final class Check {
     private int wrong;
     private int asked;
+    private String sentence = "";
+
+    /** The sentence of the document that the answers from here on are looked at for. */
+    void said(String words) {
+        sentence = "[" + words + "] ";
+    }
 
     void due(String call, long got, long want) {
         asked++;
         if (got != want) {
             wrong++;
-            System.out.println(call + " answered " + got + ", due is " + want);
+            System.out.println(sentence + call + " answered " + got + ", due is " + want);
+        }
+    }
+
+    void same(String what, String got, String want) {
+        asked++;
+        if (!got.equals(want)) {
+            wrong++;
+            System.out.println(sentence + what + ": " + got + ", due is " + want);
         }
     }
 
