@@ -661,6 +661,34 @@ public final class EdgesTest {
         check.due("temper", x.count(6), 3);
     }
 
+    /** Both images and the room are of different texts, and a fourth one is read. */
+    private static void imagesAndFaults() {
+        check.said("3. room: all stays with a FAULT, images of other rooms, too");
+        RoseWall x = new RoseWall();
+        for (int first = 0; first < 3; first++) {
+            Check.tell(x, "wall 1 1;row 0 1;temper 1;turns : temper = 1;");
+            x.image(first % 2);
+            Check.tell(x, "wall 1 2;row 0 2 2;tenant patience 2;temper 2;turns : temper = 2;");
+            x.image(1 - first % 2);
+            Check.tell(x, "wall 1 3;row 0 3 3 3;tenant;tenant patience 3;in 1;face 2;temper 3;turns : temper = 3;goes : light = 1;");
+            check.due("a fault", Check.tell(x, "wall 3 3;row 0 9 9 9;tenant patience 0;face 0;temper 4;open 10;turns : 1 = 0;goes : 1 = 1;?"), -31);
+            int[] due = {x.count(0), 3, x.count(1), 2, x.count(5), 4, x.rose(1, 0), 3, x.tenant(1, 0), 3, x.lies(1, 0), 7, x.chance(1, 1), 2, x.tenant(1, 2), 0};
+            for (int i = 0; i < due.length; i += 2) {
+                check.due("of the room, " + i, due[i], due[i + 1]);
+            }
+            x.restore(first % 2);
+            int[] one = {x.count(0), 1, x.count(1), 0, x.rose(0, 0), 1, x.lies(1, 0), 1, x.count(10), 4};
+            for (int i = 0; i < one.length; i += 2) {
+                check.due("of the first image, " + i, one[i], one[i + 1]);
+            }
+            x.restore(1 - first % 2);
+            int[] two = {x.count(0), 2, x.count(1), 1, x.rose(1, 0), 2, x.tenant(0, 0), 2, x.lies(1, 0), 3, x.count(10), 5};
+            for (int i = 0; i < two.length; i += 2) {
+                check.due("of the other image, " + i, two[i], two[i + 1]);
+            }
+        }
+    }
+
     private static void counts() {
         check.said("45. count: 0 to 10. NONE for others; who is in (NONE), the FACE (0: none)");
         RoseWall x = Check.told("wall 3 3;tenant;tenant;tenant;tenant;in 3;face 8;temper 9;turned 0;turned 8;turns : turned = 1;");
@@ -701,6 +729,7 @@ public final class EdgesTest {
         chances();
         trays();
         images();
+        imagesAndFaults();
         counts();
         check.end();
     }

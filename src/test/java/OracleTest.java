@@ -39,6 +39,9 @@ public final class OracleTest {
     }
 
     private long call(String name, Object... args) {
+        if (log.size() >= 512) {
+            throw new IllegalStateException("what an object answers behind its 512th call is free");
+        }
         try {
             long got = ((Number) ours.get(name).invoke(x, args)).longValue();
             long due = ((Number) theirs.get(name).invoke(oracle, args)).longValue();
@@ -388,7 +391,7 @@ public final class OracleTest {
             call("lists", tray, tray % 2);
         }
         for (Method m : ours.values()) {
-            for (int i = 0; i < 12 && !wrong; i++) {
+            for (int i = 0; i < 8 && !wrong; i++) {
                 Object[] args = new Object[m.getParameterCount()];
                 for (int k = 0; k < args.length; k++) {
                     int drawn = numbers[random.nextInt(numbers.length)];

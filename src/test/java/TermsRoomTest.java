@@ -419,6 +419,48 @@ public final class TermsRoomTest {
         }
     }
 
+    interface Ask { long of(RoseWall x); }
+
+    /** Each question as the first one behind another temper, another room, an image: no answer of ahead is kept. */
+    private static void ofNow() {
+        check.said("temper: the WALL's; WALL, who is in, TEMPER as they are now");
+        String text = "wall 1 2;tenant patience 0;tenant patience 1;in 0;turned 0;face 0 1;turns : temper = 1 or temper = 0 and turned = 1 and cell = 1;";
+        Ask[] asks = {x -> x.rose(1, 3), x -> x.rose(1, 4), x -> x.lies(1, 0), x -> x.round(0, 2), x -> x.stays(), x -> x.stayBy(0), x -> x.out(), x -> x.outBy(0), x -> x.forces(),
+            x -> x.minds(), x -> x.soonest(3), x -> x.way(3, 0), x -> x.toFace(), x -> x.parents(3, 0, 0), x -> x.orphans(0, 1), x -> x.still(1, -1), x -> x.rows(3, 1), x -> x.seen(0),
+            x -> x.seenBy(0, 0), x -> x.whose(0), x -> x.chance(1, 0), x -> x.gone(50), x -> x.best(1), x -> x.judge(1, 2), x -> x.judge(1, 3)};
+        long[] calm = {0, 0, 0, 0, -1, 0, -1, -1, -1, -1, -1, -1, -1, 0, 2, 2, 0, 0, -1, 0, 1, -1, 0, 0, 0};
+        long[] hot = {1, 1, 3, 2, 0, -1, 1, 0, 1, 0, 1, 0, 1, 4, 3, 1, 2, 2, 0, 515, 0, 1, 0, 3, -1};
+        for (int i = 0; i < asks.length; i++) {
+            RoseWall x = Check.told(text);
+            Check.fill(x, 0, 3);
+            Check.fill(x, 1, 0);
+            for (int again = 0; again < 2; again++) {
+                check.due("question " + i + ", of temper 0", asks[i].of(x), calm[i]);
+                x.temper(1);
+                check.due("question " + i + ", of temper 1", asks[i].of(x), hot[i]);
+                x.undo(1);
+                check.due("question " + i + ", undone", asks[i].of(x), calm[i]);
+                x.image(0);
+                x.temper(1);
+                check.due("question " + i + ", of temper 1", asks[i].of(x), hot[i]);
+                x.restore(0);
+                check.due("question " + i + ", of the image", asks[i].of(x), calm[i]);
+                Check.tell(x, text + "temper 1;");
+                check.due("question " + i + ", of another room", asks[i].of(x), hot[i]);
+                Check.tell(x, text);
+            }
+        }
+        check.said("TENANTS: who is in now");
+        RoseWall who = Check.told("wall 1 1;tenant;tenant;turns : tenant = 1;goes : 1 = 0;");
+        check.due("nobody", who.lies(1, 0), 0);
+        who.let(0);
+        check.due("0", who.lies(1, 0), 0);
+        who.undo(1);
+        who.let(1);
+        check.due("1", who.lies(1, 0), 1);
+        check.due("1, as it will be", who.rose(0, 3), 1);
+    }
+
     private static void traysAndImages() {
         check.said("TRAYS 0 to 3 are MISSING at first, or have 0 to 40 numbers of 8 bits (sort 0), 16 (1), 32 (2), 64 (3)");
         for (int tray = -1; tray <= 4; tray++) {
@@ -461,6 +503,7 @@ public final class TermsRoomTest {
         seen();
         chances();
         seasons();
+        ofNow();
         traysAndImages();
         check.end();
     }

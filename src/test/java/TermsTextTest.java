@@ -34,6 +34,16 @@ public final class TermsTextTest {
         check.due("901", x.room(901), -3);
         check.due("900 behind it", x.room(900), 2);
 
+        for (String full : new String[] {";", "=", "1 ", "a ", "(", "?"}) {
+            String text = full.repeat(900 / full.length());
+            fault(text, full.equals("?") ? 1 : 2, 0);
+            fault((W + text).substring(0, 900), full.equals("?") ? 1 : 2, 9);
+            fault((W + "turns:" + text).substring(0, 900), full.equals("?") ? 1 : full.equals("(") ? 4 : 2, full.equals("(") ? 21 : full.equals("1 ") ? 17 : 15);
+        }
+        String sums = W + "turns:1" + "+1".repeat(437);
+        check.due("as many signs as go in", read(sums + "*1=438;", 2).rose(0, 3), 1);
+        fault(sums + "+1*1", 2, sums.length() + 4);
+
         check.said("without one: 1 row, 1 column, KIND 0, no TENANTS, no FACE");
         RoseWall none = new RoseWall();
         check.due("roses", none.count(0), 1);
