@@ -403,6 +403,44 @@ public final class OracleTest {
         return run(0);
     }
 
+    /** Rooms of which nearly all walls can come, with somebody in and with nobody: found by a search. */
+    private boolean runWide(String goes) {
+        String text = "wall 3 3;row 0 5 4 2;row 1 6 4 2;row 2 3 7 3;tenant patience 3;tenant;in 0;face 0 4 8;"
+            + "turns:turned+light=light*near or near*turned>4 or 1=cell+near;goes:" + goes + ";";
+        for (int i = 0; i < text.length(); i += 20) {
+            int[] fives = new int[5];
+            for (int k = 0; k < 20; k++) {
+                fives[k / 4] = fives[k / 4] << 8 | (i + k < text.length() ? text.charAt(i + k) : ' ');
+            }
+            call("feed", fives[0], fives[1], fives[2], fives[3], fives[4]);
+        }
+        call("room", text.length());
+        for (int again = 0; again < 2; again++) {
+            for (String name : new String[] {"stays", "out", "forces", "minds", "toFace", "walls"}) {
+                call(name);
+            }
+            for (int i = 0; i < 100; i += 9) {
+                call("stayBy", i);
+                call("outBy", i / 5);
+                call("soonest", i * 5);
+                call("way", i * 5, i % 7);
+                call("rows", i * 4, i % 21);
+            }
+            for (int blind = 0; blind < 2; blind++) {
+                for (int what = 0; what < 4; what++) {
+                    call("round", blind, what);
+                }
+                call("orphans", blind, 0);
+                call("lies", 99999, blind);
+            }
+            call("chance", 8, 0);
+            call("gone", 90);
+            call("best", 8);
+            call("night", again);
+        }
+        return run(0);
+    }
+
     public static void main(String[] args) {
         int runs = args.length > 0 ? Integer.parseInt(args[0]) : 700;
         long first = args.length > 1 ? Long.parseLong(args[1]) : 1;
@@ -421,6 +459,14 @@ public final class OracleTest {
                 System.exit(1);
             }
             asked += extremes.log.size();
+        }
+        for (String goes : new String[] {"1=0", "face=1", "all=8 and light=1", "all=4 and light=0", "all>6", "all=5 and light=1 or face=1", "all=3-tenant and light=1", "all=0"}) {
+            OracleTest wide = new OracleTest(1, hits);
+            if (wide.runWide(goes)) {
+                System.out.println("wide, " + goes);
+                System.exit(1);
+            }
+            asked += wide.log.size();
         }
         System.out.println(asked + " answers looked at; rooms read and faulty, by fault: " + java.util.Arrays.toString(hits));
     }
