@@ -240,8 +240,10 @@ public final class EdgesTest {
     private static void judged() {
         check.said("13. judge: what 0: the first place that can't be (NONE), 1: why (0), 2: the WALL then, 3: who is in then (NONE)");
         RoseWall x = Check.told(GROWS);
-        long[][] deeds = {{}, {1, 1}, {1, 1, 10}, {10}, {1, 10}, {1, 1, 10, 10}, {2}, {1, 1, 1, 39, 22, 11, 0}};
-        int[][] due = {{-1, 0, 1, 0}, {-1, 0, 7, -1}, {-1, 0, 7, 0}, {0, 2, 1, 0}, {1, 2, 3, 0}, {3, 2, 7, 0}, {0, 1, 1, 0}, {5, 1, 3, -1}};
+        long[][] deeds = {{}, {1, 1}, {1, 1, 10}, {10}, {1, 10}, {1, 1, 10, 10}, {2}, {1, 1, 1, 39, 22, 11, 0},
+            {29, 1, 1}, {10, 21, 20}, {1, 2, 1, 10}, {1, 1, 19, 10, 22}};
+        int[][] due = {{-1, 0, 1, 0}, {-1, 0, 7, -1}, {-1, 0, 7, 0}, {0, 2, 1, 0}, {1, 2, 3, 0}, {3, 2, 7, 0}, {0, 1, 1, 0}, {5, 1, 3, -1},
+            {0, 1, 1, 0}, {0, 2, 1, 0}, {1, 1, 3, 0}, {2, 1, 7, -1}};
         for (int i = 0; i < deeds.length; i++) {
             Check.fill(x, 3, deeds[i]);
             for (int what = -1; what <= 4; what++) {
@@ -538,6 +540,23 @@ public final class EdgesTest {
         RoseWall two = Check.told("wall 1 2;turns : light = 0 and temper > 4 or light = 1 and temper > 2 * cell + 3;");
         Check.fill(two, 0, -1);
         check.due("five and five, shut; four, two and four, open", two.attempt(0, 0), 1);
+        check.said("36. attempt: The blind of one NIGHT from now on to try next (not from behind the NIGHTS that were seen)");
+        RoseWall shut = Check.told("wall 1 1;turns : turned = 0 and [light = 1 or temper > 4] or turned = 1 and light = 1 and temper > 6;");
+        RoseWall open = Check.told("wall 1 1;turns : turned = 0 and [light = 0 or temper > 4] or turned = 1 and light = 0 and temper > 6;");
+        Check.fill(shut, 0, 1);
+        Check.fill(open, 0, 1);
+        check.due("all, by one night open", shut.tempers(0, 1), 1023);
+        check.due("five and five, shut, from now on", shut.attempt(0, 1), 0);
+        check.due("all, by one night shut", open.tempers(0, 0), 1023);
+        check.due("five and five, open, from now on", open.attempt(0, 0), 1);
+        check.said("36. attempt: the greatest number of these TEMPERS by which the WALL is the same then is least");
+        String coarse = "[cell = 0 and temper > 3 and temper < 8 or cell = 1 and temper > 7]";
+        String fine = "[cell = 0 and [temper = 5 or temper = 7 or temper = 9] or cell = 1 and [temper = 6 or temper = 7] or cell = 2 and temper > 7]";
+        for (int blind = 0; blind < 2; blind++) {
+            RoseWall most = Check.told("wall 1 3;turns : light = " + blind + " and " + coarse + " or light = " + (1 - blind) + " and " + fine + ";");
+            Check.fill(most, 0, -1);
+            check.due("four, four, two goes ahead of five and five alone: the greatest number counts", most.attempt(0, 0), blind);
+        }
     }
 
     private static void chances() {

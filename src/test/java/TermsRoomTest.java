@@ -461,6 +461,30 @@ public final class TermsRoomTest {
         check.due("1, as it will be", who.rose(0, 3), 1);
     }
 
+    /** By the law the wall comes to 0 with tenant 0 in, to 2 with nobody in; with tenant 1 in to 1 (shut), to 3 (open), by which it goes. */
+    private static void ofWhoIsIn() {
+        check.said("tenant: the number of the TENANT that is in: each question is of who is in now");
+        String text = "wall 1 2;tenant;tenant;face 0 1;turns : tenant = 1 and [light = 1 or cell = 0] or tenant = 9 and cell = 1;goes : tenant = 1 and all = 2;";
+        Ask[] asks = {x -> x.rose(1, 3), x -> x.rose(1, 4), x -> x.lies(1, 0), x -> x.lies(1, 1), x -> x.lies(2, 1), x -> x.round(1, 0), x -> x.round(1, 3), x -> x.stays(),
+            x -> x.out(), x -> x.outBy(0), x -> x.forces(), x -> x.minds(), x -> x.soonest(2), x -> x.way(2, 0), x -> x.way(2, 1), x -> x.toFace(), x -> x.walls(),
+            x -> x.rows(2, 2), x -> x.seen(0), x -> x.seenBy(0, 0), x -> x.whose(0), x -> x.tempers(0, 1), x -> x.attempt(0, 1), x -> x.chance(1, 0), x -> x.chance(1, 1),
+            x -> x.gone(60), x -> x.best(1), x -> x.parents(2, 0, -1), x -> x.orphans(0, 1), x -> x.still(1, 0), x -> x.judge(2, 2), x -> x.judge(2, 3),
+            x -> x.lists(1, 0) + x.judge(1, 0), x -> x.lists(1, 1) + x.judge(1, 0), x -> x.night(1), x -> x.nights(3, 1)};
+        long[] nobody = {1, 1, 2, 2, 2, 1, -1, -5, -5, -5, -5, -5, 1, 0, -1, -1, 2, 4, 4, 0, 514, 1023, 0, -5, -5, -5, 0, 4, 3, 1, 2, -1, 2, 2, 2, 3};
+        long[] first = {0, 0, 0, 0, 0, 0, -1, -1, -1, -1, -1, -1, -1, -1, -1, -1, 1, 0, 0, -1, 514, 0, -1, 1, 1, -1, 0, 4, 3, 1, 0, 0, 1, 1, 0, 3};
+        long[] second = {0, 1, 1, 3, 2, 2, 1, -1, 1, 1, 1, 1, 2, 1, 0, 1, 4, 2, 2, 1, 514, 1023, 0, 1, 2, 1, 0, 4, 3, 1, 3, -1, 1, 2, 3, 1};
+        long[][] due = {nobody, first, second};
+        for (int who = -1; who <= 1; who++) {
+            for (int i = 0; i < asks.length; i++) {
+                RoseWall x = Check.told(who < 0 ? text : text + "in " + who + ";");
+                Check.fill(x, 0, -1, 2);
+                Check.fill(x, 1, 0, 0);
+                Check.fill(x, 2, 1);
+                check.due("question " + i + ", tenant " + who + " in", asks[i].of(x), due[who + 1][i]);
+            }
+        }
+    }
+
     private static void traysAndImages() {
         check.said("TRAYS 0 to 3 are MISSING at first, or have 0 to 40 numbers of 8 bits (sort 0), 16 (1), 32 (2), 64 (3)");
         for (int tray = -1; tray <= 4; tray++) {
@@ -504,6 +528,7 @@ public final class TermsRoomTest {
         chances();
         seasons();
         ofNow();
+        ofWhoIsIn();
         traysAndImages();
         check.end();
     }
